@@ -581,9 +581,18 @@ final class Oracle {
         }
         o.walker = random.nextInt(o.posts);
         o.fog = random.nextInt(10);
-        o.turns = random.nextInt(3) == 0 ? null : sum(random, 0);
-        o.sticks = random.nextInt(2) == 0 ? null : truth(random, 0);
+        o.turns = random.nextInt(3) == 0 ? null : shortLaw(random, false);
+        o.sticks = random.nextInt(2) == 0 ? null : shortLaw(random, true);
         return o;
+    }
+
+    /** One of those that leave a text below 900 bytes. */
+    private static Part shortLaw(Random random, boolean truth) {
+        Part law = null;
+        while (law == null || law.text().length() > 250) {
+            law = truth ? truth(random, 0) : sum(random, 0);
+        }
+        return law;
     }
 
     String text(Random random) {

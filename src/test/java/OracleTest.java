@@ -22,9 +22,6 @@ final class OracleTest {
             Random random = new Random(seed);
             Oracle o = Oracle.random(random);
             String text = o.text(random);
-            if (text.length() > 900) {
-                continue;
-            }
             run = "moor " + seed + " " + text;
             SignTurn x = new SignTurn();
             due("moor", o.lines, Check.tell(x, text));
@@ -109,11 +106,7 @@ final class OracleTest {
      * a second moor has the road of the resting post lead back to it, which looks the same.
      */
     private static void lists(Oracle o, Random random) {
-        String now = o.text(random);
-        if (now.length() > 900) {
-            return;
-        }
-        SignTurn y = Check.of(now);
+        SignTurn y = Check.of(o.text(random));
         int n = 1 + random.nextInt(8);
         y.numbers(2, random.nextInt(4), n);
         due("lists", n, y.lists(2));
@@ -127,10 +120,8 @@ final class OracleTest {
             o.arms[last.walker] = 0;
         }
         String text = o.text(random);
-        if (text.length() <= 900) {
-            due("moor of lists", o.lines, Check.tell(y, text));
-            due("lists as they come", 1, y.fogs(2) >> o.fog & 1);
-        }
+        due("moor of lists", o.lines, Check.tell(y, text));
+        due("lists as they come", 1, y.fogs(2) >> o.fog & 1);
         o.roads.set(last.walker, leads);
         o.arms[last.walker] = arm;
         if (home) {
