@@ -74,7 +74,6 @@ public final class SignTurn {
     public SignTurn() {
         moor = new Moor();
         draft = new Moor();
-        moor.clear();
         moor.posts = 1;
         moor.homes = 1;
         reader = new Reader(draft);
@@ -124,10 +123,7 @@ public final class SignTurn {
             return FAULTY - reader.fault;
         }
         moor.copy(draft);
-        now.walker = draft.walker;
-        now.arms = draft.arms;
-        now.fog = draft.fog;
-        now.steps = 0;
+        now.copy(reader.start);
         deeds.undoable = 0;
         rules.forget();
         rules.prepare(now.fog);
@@ -176,11 +172,7 @@ public final class SignTurn {
     public int step() {
         deeds.begin();
         int why = deeds.goOn(now);
-        if (why != 0) {
-            return WHY_NOT - why;
-        }
-        deeds.end(1);
-        return now.walker;
+        return ended(why, now.walker);
     }
 
     public int steps(int n) {
@@ -199,34 +191,19 @@ public final class SignTurn {
     public int turn(int p, int road) {
         deeds.begin();
         int before = armOf(now.arms, p);
-        int why = deeds.turnArm(now, p, road);
-        if (why != 0) {
-            return WHY_NOT - why;
-        }
-        deeds.end(1);
-        return before;
+        return ended(deeds.turnArm(now, p, road), before);
     }
 
     public int setsOut(int p) {
         deeds.begin();
         int before = now.walker;
-        int why = deeds.setOut(now, p);
-        if (why != 0) {
-            return WHY_NOT - why;
-        }
-        deeds.end(1);
-        return before;
+        return ended(deeds.setOut(now, p), before);
     }
 
     public int fog(int n) {
         deeds.begin();
         int before = now.fog;
-        int why = deeds.befog(now, n);
-        if (why != 0) {
-            return WHY_NOT - why;
-        }
-        deeds.end(1);
-        return before;
+        return ended(deeds.befog(now, n), before);
     }
 
     public int undo(int n) {
@@ -582,6 +559,15 @@ public final class SignTurn {
         }
     }
 
+    /** Ends a call of one deed: its answer, or the code of why it can't be. */
+    private int ended(int why, int answer) {
+        if (why != 0) {
+            return WHY_NOT - why;
+        }
+        deeds.end(1);
+        return answer;
+    }
+
     private static boolean noTray(int tray) {
         return tray < 0 || tray >= TRAYS;
     }
@@ -618,15 +604,11 @@ public final class SignTurn {
         return p >= 0 && p < POSTS && (bits >> p & 1) != 0;
     }
 
-    /** What a text tells: posts, roads, homes, laws, and how all is at first. */
+    /** What a text tells for as long as there is no other one: posts, roads, homes, laws. */
     private static final class Moor {
         int posts;
         int lines;
         int homes;
-        int walker;
-        int arms;
-        int fog;
-        int codeSize;
         int turnsFrom;
         int turnsTo;
         int sticksFrom;
@@ -639,10 +621,6 @@ public final class SignTurn {
             posts = 0;
             lines = 0;
             homes = 0;
-            walker = 0;
-            arms = 0;
-            fog = 0;
-            codeSize = 0;
             turnsFrom = 0;
             turnsTo = 0;
             sticksFrom = 0;
@@ -654,10 +632,6 @@ public final class SignTurn {
             posts = other.posts;
             lines = other.lines;
             homes = other.homes;
-            walker = other.walker;
-            arms = other.arms;
-            fog = other.fog;
-            codeSize = other.codeSize;
             turnsFrom = other.turnsFrom;
             turnsTo = other.turnsTo;
             sticksFrom = other.sticksFrom;
@@ -672,7 +646,7 @@ public final class SignTurn {
         }
 
         int roadsOf(int p) {
-            return has(p) ? roads[p] : 0;
+            return p < 0 || p >= posts || p >= POSTS ? 0 : roads[p];
         }
 
         int leadsTo(int p, int road) {
@@ -743,6 +717,13 @@ public final class SignTurn {
             steps = other.steps;
         }
 
+        void clear() {
+            walker = 0;
+            arms = 0;
+            fog = 0;
+            steps = 0;
+        }
+
         int code() {
             return arms * POSTS + walker;
         }
@@ -757,6 +738,9 @@ public final class SignTurn {
         static final String SIGNS = ";:+-*()[]=<>";
 
         final Moor draft;
+        /** How all is at first by the draft. */
+        final Stand start = new Stand();
+        int codeSize;
         final int[] tape = new int[TEXT_SIZE];
         int size;
         int length;
@@ -784,6 +768,8 @@ public final class SignTurn {
             fault = 0;
             faultPlace = NONE;
             draft.clear();
+            start.clear();
+            codeSize = 0;
             advance();
             boolean good = readHead();
             for (int i = 0; i < TEXT_SIZE && good && kind != END; i++) {
@@ -792,11 +778,14 @@ public final class SignTurn {
         }
 
         private boolean readHead() {
-            if (!take("moor") || !take("posts") || !bounded(1, POSTS)) {
+            if (!take("moor") || !take("posts")) {
                 return false;
             }
-            draft.posts = number;
-            advance();
+            int posts = takeNumber(1, POSTS);
+            if (posts == NONE) {
+                return false;
+            }
+            draft.posts = posts;
             return endLine();
         }
 
@@ -841,80 +830,73 @@ public final class SignTurn {
         }
 
         private boolean readRoad() {
-            if (!bounded(0, draft.posts - 1)) {
-                return false;
-            }
-            int p = number;
-            if (draft.roadsOf(p) >= ROADS) {
+            // Of a number that is no post there are no roads; takePost() finds it out of bounds.
+            if (kind == NUMBER && draft.roadsOf(number) >= ROADS) {
                 return wrong(OUT_OF_BOUNDS);
             }
-            advance();
-            if (!bounded(0, draft.posts - 1)) {
+            int p = takePost();
+            int to = p == NONE ? NONE : takePost();
+            if (to == NONE) {
                 return false;
             }
-            draft.addRoad(p, number);
-            advance();
+            draft.addRoad(p, to);
             return true;
         }
 
         private boolean readArm() {
-            if (!bounded(0, draft.posts - 1)) {
+            int p = takePost();
+            int road = p == NONE ? NONE : takeNumber(0, draft.roadsOf(p) - 1);
+            if (road == NONE) {
                 return false;
             }
-            int p = number;
-            advance();
-            if (!bounded(0, draft.roadsOf(p) - 1)) {
-                return false;
-            }
-            draft.arms = withArm(draft.arms, p, number);
-            advance();
+            start.arms = withArm(start.arms, p, road);
             return true;
         }
 
         private boolean readHome() {
-            if (!bounded(0, draft.posts - 1)) {
+            int p = takePost();
+            if (p == NONE) {
                 return false;
             }
-            draft.homes |= 1 << number;
-            advance();
+            draft.homes |= 1 << p;
             return true;
         }
 
         private boolean readWalker() {
-            if (!bounded(0, draft.posts - 1)) {
+            int p = takePost();
+            if (p == NONE) {
                 return false;
             }
-            draft.walker = number;
-            advance();
+            start.walker = p;
             return true;
         }
 
         private boolean readFog() {
-            if (!bounded(0, FOGS - 1)) {
+            int fog = takeNumber(0, FOGS - 1);
+            if (fog == NONE) {
                 return false;
             }
-            draft.fog = number;
-            advance();
+            start.fog = fog;
             return true;
         }
 
         private boolean readTurns() {
-            int start = draft.codeSize;
+            int first = codeSize;
             if (!take(":") || !readSum(0)) {
                 return false;
             }
-            draft.turnsFrom = start;
-            draft.turnsTo = draft.codeSize;
+            draft.turnsFrom = first;
+            draft.turnsTo = codeSize;
             return true;
         }
 
         private boolean readSticks() {
-            int start = draft.codeSize;
+            int first = codeSize;
             if (!take(":") || !readTruth(0)) {
                 return false;
             }
-            draft.sticksFrom = start;
-            draft.sticksTo = draft.codeSize;
+            draft.sticksFrom = first;
+            draft.sticksTo = codeSize;
             return true;
         }
 
@@ -1017,11 +999,11 @@ public final class SignTurn {
         }
 
         private boolean emit(int op) {
-            if (draft.codeSize >= TEXT_SIZE) {
+            if (codeSize >= TEXT_SIZE) {
                 return wrong(CANT_STAND);
             }
-            draft.code[draft.codeSize] = op;
-            draft.codeSize++;
+            draft.code[codeSize] = op;
+            codeSize++;
             return true;
         }
 
@@ -1033,11 +1015,23 @@ public final class SignTurn {
             return true;
         }
 
-        private boolean bounded(int least, int most) {
+        private int takePost() {
+            return takeNumber(0, draft.posts - 1);
+        }
+
+        /** The number that stands here, or NONE with a fault. */
+        private int takeNumber(int least, int most) {
             if (kind != NUMBER) {
-                return wrong(CANT_STAND);
+                wrong(CANT_STAND);
+                return NONE;
             }
-            return number >= least && number <= most || wrong(OUT_OF_BOUNDS);
+            if (number < least || number > most) {
+                wrong(OUT_OF_BOUNDS);
+                return NONE;
+            }
+            int taken = number;
+            advance();
+            return taken;
         }
 
         private boolean wrong(int why) {
@@ -1097,6 +1091,7 @@ public final class SignTurn {
         final int[] known = new int[FOGS * POSTS * ROADS];
         int knownFogs;
         final int[] stack = new int[STACK_SIZE];
+        /** What the names in a law tell just now. */
         int fog;
         int p;
         int arm;
@@ -1120,10 +1115,12 @@ public final class SignTurn {
             }
             knownFogs |= 1 << newFog;
             fog = newFog;
-            for (p = 0; p < moor.posts && p < POSTS; p++) {
-                roads = moor.roadsOf(p);
-                for (arm = 0; arm < roads && arm < ROADS; arm++) {
-                    known[(fog * POSTS + p) * ROADS + arm] = workOut();
+            for (int from = 0; from < moor.posts && from < POSTS; from++) {
+                p = from;
+                roads = moor.roadsOf(from);
+                for (int shown = 0; shown < roads && shown < ROADS; shown++) {
+                    arm = shown;
+                    known[(newFog * POSTS + from) * ROADS + shown] = workOut();
                 }
             }
         }
@@ -1595,7 +1592,8 @@ public final class SignTurn {
             queue[0] = start;
             turnedHead = 0;
             turnedTail = 1;
-            for (turned = 0; turned <= STANDS && turnedHead < turnedTail; turned++) {
+            for (int hands = 0; hands <= STANDS && turnedHead < turnedTail; hands++) {
+                turned = hands;
                 if (reachTurned(fog, goal)) {
                     return true;
                 }

@@ -20,6 +20,7 @@ final class FaultTest {
         depths();
         firstAlong();
         goodTexts();
+        cutTexts();
         byChance();
         Check.end();
     }
@@ -84,6 +85,9 @@ final class FaultTest {
         faulty(2, HEAD + "^posts 2;");
         faulty(2, HEAD + "^bog 1;");
         faulty(2, HEAD + "^roads 0 1;");
+        faulty(2, HEAD + "^zoo 1;");
+        faulty(2, HEAD + "^fuzz 1;");
+        faulty(2, HEAD + "fog 1 ^a;");
         faulty(2, HEAD + "^homes 0;");
         faulty(2, HEAD + "^1");
         faulty(2, HEAD + "road 0 1 ^1;");
@@ -184,6 +188,19 @@ final class FaultTest {
         good(2, "moor posts 1;turns:((((((1))))))+((((((1))))));");
         good(2, "moor posts 1;sticks:not[not[(1+if 1=1 then 1 else 2 end)=1]];");
         good(2, "moor posts 1;turns:" + "1+".repeat(439) + "10;");
+    }
+
+    /** What lies on the tape behind the text doesn't belong to its last token. */
+    private static void cutTexts() {
+        SignTurn x = new SignTurn();
+        Check.feed(x, "moor posts 12345;");
+        Check.due("cut within digits", -32, x.moor(12));
+        Check.due("the end then", 12, x.fault(1));
+        Check.feed(x, "moor posts 1;fogs");
+        Check.due("cut within a word", -32, x.moor(16));
+        Check.due("the end behind the word", 16, x.fault(1));
+        Check.feed(x, "moor posts 1;?");
+        Check.due("cut ahead of a fault", 1, x.moor(13));
     }
 
     // ---- texts by chance against a parser of another kind, by a row of what is still to come

@@ -81,6 +81,7 @@ final class PromiseTest {
         due("new fault 1", SignTurn.NONE, x.fault(1));
         due("new post", 1, x.post(0, 2));
         due("new step", -12, x.step());
+        due("new by", -5, x.by(0, 0));
         for (int tray = 0; tray < 4; tray++) {
             due("new tray", -6, x.perform(tray));
         }
@@ -139,6 +140,27 @@ final class PromiseTest {
         due("the later fog", 8, y.count(5));
         due("the later laws", 5, y.step());
         due("the later turns", 0, y.post(5, 0));
+        nothingIsLeft(y);
+    }
+
+    /** What a text doesn't tell is as it is without it, not as an earlier text told it. */
+    private static void nothingIsLeft(SignTurn x) {
+        due("a text with a fault", -32, Check.tell(x, "moor posts 6;road 0 0;road 0 0;arm 0 1;home 5;walker 3;fog 4;"
+            + "turns:0;sticks:1=1;bog"));
+        due("a plain text", 3, Check.tell(x, "moor posts 6;road 0 1;road 0 2;"));
+        int[] counts = {6, 2, 0, 0, 0, 0, 0, 0, 0, 3};
+        for (int what = 0; what < counts.length; what++) {
+            due("count of a plain text " + what, counts[what], x.count(what));
+        }
+        due("no roads of 5", -5, x.by(5, 0));
+        due("no law that keeps waiting", 1, x.by(0, 0));
+        due("no law of turns", 1, x.by(0, 1));
+        due("no roads at all", 1, Check.tell(x, "moor posts 6;"));
+        due("by is none", -5, x.by(0, 0));
+        due("step is none", -12, x.step());
+        for (int i = 0; i < 8; i++) {
+            due("long laws again and again", 2, Check.tell(x, "moor posts 1;turns:" + "1+".repeat(430) + "1;"));
+        }
     }
 
     private static void fault() {
@@ -829,6 +851,9 @@ final class PromiseTest {
         due("forces at once", 1, x.forces(1));
         due("laws aside", 4, Check.of(KEPT + "sticks:1=1;turns:0;").forces(3));
         due("a ring forces itself", 2, Check.of(RING).forces(2));
+        // The first one must turn the arm of 1 himself; the way 0 3 2 1 4 0 3 2 1 makes it his turn there.
+        due("forces late", 9, Check.of("moor posts 6;road 0 3;road 1 5;road 1 4;road 2 1;road 3 2;road 3 1;road 4 0;"
+            + "road 4 1;").forces(5));
         due("not past a home", -1, Check.of(RING + "home 1;").forces(2));
         due("but to it", 1, Check.of(RING + "home 1;").forces(1));
         due("the other one avoids it", -1, Check.of("moor posts 3;road 0 1;road 1 2;road 1 0;").forces(2));
@@ -961,6 +986,9 @@ final class PromiseTest {
         // What the fog makes of the law comes with the image, too.
         x.fog(3);
         due("the law in another fog", 0, x.by(0, 1));
+        // The same fog, but another law: none of it may be left.
+        Check.tell(x, "moor posts 3;road 0 1;road 0 0;fog 4;");
+        due("the law of another moor", 1, x.by(0, 1));
         x.restore(1);
         due("the law in its fog", 1, x.by(0, 1));
     }
