@@ -86,6 +86,7 @@ final class FaultTest {
         faulty(2, HEAD + "^bog 1;");
         faulty(2, HEAD + "^roads 0 1;");
         faulty(2, HEAD + "^zoo 1;");
+        faulty(2, HEAD + "^fogz 1;");
         faulty(2, HEAD + "^fuzz 1;");
         faulty(2, HEAD + "fog 1 ^a;");
         faulty(2, HEAD + "^homes 0;");

@@ -147,6 +147,7 @@ final class PromiseTest {
     private static void nothingIsLeft(SignTurn x) {
         due("a text with a fault", -32, Check.tell(x, "moor posts 6;road 0 0;road 0 0;arm 0 1;home 5;walker 3;fog 4;"
             + "turns:0;sticks:1=1;bog"));
+        Check.tell(x, "moor posts 6;road 0 0;sticks:1=1;");
         due("a plain text", 3, Check.tell(x, "moor posts 6;road 0 1;road 0 2;"));
         int[] counts = {6, 2, 0, 0, 0, 0, 0, 0, 0, 3};
         for (int what = 0; what < counts.length; what++) {
