@@ -21,6 +21,7 @@ final class DeedEdgeTest {
         noStepAtRest();
         names();
         keptWithinBounds();
+        truths();
         post();
         by();
         step();
@@ -31,6 +32,7 @@ final class DeedEdgeTest {
         tenAtMost();
         callsThatDidNone();
         eachAsAWhole();
+        eachKindIsUndone();
         undo();
         everyDeed();
         judge();
@@ -171,6 +173,44 @@ final class DeedEdgeTest {
         holds("2*" + most + "*0=0");
         holds(most + "+" + least + "=0");
         holds("if 1=1 then " + most + " else 0 end+1=" + most);
+    }
+
+    /** "UNIT .. one of = < >", "BOTH { or BOTH }", "UNIT { and UNIT }", "if tells the one SUM, if the TRUTH holds, else the other one". */
+    private static void truths() {
+        String[] sides = {"0", "1", "2", "(0-1)", "999", "(0-999)"};
+        int[] values = {0, 1, 2, -1, 999, -999};
+        for (int i = 0; i < sides.length; i++) {
+            for (int k = 0; k < sides.length; k++) {
+                String[] truth = {sides[i] + "=" + sides[k], sides[i] + "<" + sides[k], sides[i] + ">" + sides[k]};
+                boolean[] is = {values[i] == values[k], values[i] < values[k], values[i] > values[k]};
+                for (int t = 0; t < 3; t++) {
+                    holds(is[t] ? truth[t] : "not " + truth[t]);
+                    holds("if " + truth[t] + " then 4 else 7 end=" + (is[t] ? 4 : 7));
+                }
+            }
+        }
+        String[] of = {"1=2", "1=1"};
+        for (int a = 0; a < 2; a++) {
+            for (int b = 0; b < 2; b++) {
+                holds((a & b) != 0 ? of[a] + " and " + of[b] : "not[" + of[a] + " and " + of[b] + "]");
+                holds((a | b) != 0 ? of[a] + " or " + of[b] : "not[" + of[a] + " or " + of[b] + "]");
+                for (int c = 0; c < 2; c++) {
+                    holds((a | b & c) != 0 ? of[a] + " or " + of[b] + " and " + of[c] : "not[" + of[a] + " or " + of[b] + " and " + of[c] + "]");
+                    holds((a & b | c) != 0 ? of[a] + " and " + of[b] + " or " + of[c] : "not[" + of[a] + " and " + of[b] + " or " + of[c] + "]");
+                }
+            }
+        }
+        holds("not 1=2 and 1=1");
+        holds("not[not 1=2 and 1=2]");
+        holds("not[[1=1 or 1=1]and 1=2]");
+        holds("1+2*3=7");
+        holds("2*3+1=7");
+        holds("(1+2)*3=9");
+        holds("9-3-2=4");
+        holds("9-(3-2)=8");
+        holds("if 1=1 then 1 else 2 end+if 1=2 then 1 else 2 end=3");
+        holds("if 1=2 then 1 else if 1=2 then 2 else 3 end end=3");
+        holds("if 1=1 then if 1=2 then 2 else 3 end else 1 end=3");
     }
 
     // ---- 5, 6
@@ -374,6 +414,49 @@ final class DeedEdgeTest {
         }
     }
 
+    private static void twice(String call, ToLongFunction<SignTurn> first, ToLongFunction<SignTurn> second) {
+        SignTurn x = Check.of(MANY + "fog 3;");
+        Check.tray(x, 0, 1, 0, 15, 132, 23);
+        Check.tray(x, 1, 1, 21, 0, 111);
+        int[] before = new int[4];
+        int[] between = new int[4];
+        for (int k = 0; k < 4; k++) {
+            before[k] = x.count(3 + k);
+        }
+        due(call + " is done", 1, first.applyAsLong(x) >= 0 ? 1 : 0);
+        for (int k = 0; k < 4; k++) {
+            between[k] = x.count(3 + k);
+        }
+        due(call + " is done again", 1, second.applyAsLong(x) >= 0 ? 1 : 0);
+        due(call + ", two calls", 2, x.count(7));
+        due(call + " undone", 1, x.undo(1));
+        for (int k = 0; k < 4; k++) {
+            due(call + " undone, count " + (3 + k), between[k], x.count(3 + k));
+        }
+        due(call + " undone again", 0, x.undo(1));
+        for (int k = 0; k < 4; k++) {
+            due(call + " undone again, count " + (3 + k), before[k], x.count(3 + k));
+        }
+    }
+
+    /** Each call that does some, twice, so that what it brings back is of its own. */
+    private static void eachKindIsUndone() {
+        twice("step", SignTurn::step, SignTurn::step);
+        twice("steps", x -> x.steps(3), x -> x.steps(1));
+        twice("turn", x -> x.turn(3, 2), x -> x.turn(2, 1));
+        twice("setsOut", x -> x.setsOut(5), x -> x.setsOut(3));
+        twice("fog", x -> x.fog(9), x -> x.fog(0));
+        twice("perform", x -> x.perform(0), x -> x.perform(0));
+        twice("year", x -> x.year(1, 9), x -> x.year(2, 9));
+        twice("fog ahead of a step", x -> x.fog(9), SignTurn::step);
+        twice("a step ahead of steps", SignTurn::step, x -> x.steps(2));
+        twice("a turn ahead of setsOut", x -> x.turn(3, 2), x -> x.setsOut(5));
+        twice("setsOut ahead of a turn", x -> x.setsOut(5), x -> x.turn(2, 1));
+        twice("steps ahead of perform", x -> x.steps(3), x -> x.perform(0));
+        twice("perform ahead of a year", x -> x.perform(0), x -> x.year(2, 9));
+        twice("a year ahead of fog", x -> x.year(2, 9), x -> x.fog(8));
+    }
+
     /** "n calls (1 to 10) are UNDONE: how many still can be. -3: n, more than can be". */
     private static void undo() {
         for (int n : new int[] {0, -1, 4, 5, 10, 11, MIN, MAX}) {
@@ -425,10 +508,31 @@ final class DeedEdgeTest {
         for (int v = -30; v <= 290; v++) {
             oneDeed(v, 2);
             oneDeed(v, 0);
+            oneDeedOfAll(v);
         }
         for (long v : new long[] {1L << 32, (1L << 32) + 10, (1L << 32) + 20, (1L << 32) + 110, -(1L << 32), 1L << 40, MIN, MAX,
             Long.MIN_VALUE, Long.MIN_VALUE + 10, Long.MAX_VALUE, 256 + 10, 65536 + 20}) {
             oneDeed(v, 2);
+        }
+    }
+
+    /** Where all posts have three roads, each arm can be turned to each of these and to no other. */
+    private static void oneDeedOfAll(int v) {
+        StringBuilder text = new StringBuilder("moor posts 6;");
+        for (int i = 0; i < 18; i++) {
+            text.append("road ").append(i % 6).append(" 0;");
+        }
+        for (int p = 0; p < 6; p++) {
+            text.append("arm ").append(p).append(" 1;");
+        }
+        SignTurn x = Check.of(text.toString());
+        Check.tray(x, 0, 1, v);
+        boolean turns = v >= 100 && v < 160 && v % 10 < 3;
+        boolean can = turns || v == 0 || v >= 10 && v < 26;
+        due("perform " + v, can ? 1 : 0, x.perform(0));
+        for (int p = 0; p < 6; p++) {
+            int shown = turns && v / 10 - 10 == p ? v % 10 : v == 0 && p == 0 ? 2 : 1;
+            due("the arm of " + p + " by " + v, shown, x.post(p, 0));
         }
     }
 

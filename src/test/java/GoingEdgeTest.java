@@ -227,6 +227,8 @@ final class GoingEdgeTest {
         // All arms there can be: 2 by 3 by 1 (the roadless home, too).
         homing("moor posts 3;road 0 2;road 0 2;road 1 0;road 1 0;road 1 0;home 2;arm 1 2;", 1, 0, 1, 6);
         homing(big() + "home 5;", 5, 0, 5, 729);
+        homing(big() + "home 5;walker 3;", 2, 0, 2, 729);
+        homing(TAIL + "home 3;walker 2;", 1, 0, 1, 1);
     }
 
     /** "(0 STEPS, if it is)": by all arms then. */
@@ -275,6 +277,10 @@ final class GoingEdgeTest {
         // Both by one hand: at once, or by a longer way.
         hands("moor posts 4;road 0 0;road 0 1;road 0 3;road 1 2;road 2 3;turns:0;", 3, 1, 1);
         hands("moor posts 3;road 0 0;road 0 1;road 1 1;road 1 2;turns:0;", 2, 2, 2);
+        // By one hand at the start it is two steps, by one at the end four; and the other way about.
+        hands("moor posts 6;road 0 1;road 0 4;road 4 5;road 1 2;road 2 3;road 3 3;road 3 5;turns:0;", 5, 1, 2);
+        hands("moor posts 6;road 0 1;road 0 2;road 2 3;road 3 4;road 4 5;road 1 1;road 1 5;turns:0;", 5, 1, 2);
+        hands("moor posts 2;road 1 0;walker 1;", 0, 0, 1);
         // A step at which it waits is a step, too.
         hands("moor posts 2;road 0 1;road 0 1;road 0 1;sticks:arm<2;", 1, 0, 3);
         // The arm shows 0 and 1 by turns for ever.

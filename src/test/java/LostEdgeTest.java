@@ -12,6 +12,10 @@ final class LostEdgeTest {
     /** From 1, 2, 3 as likely up as down; it rests at 0 and 4. */
     private static final String LINE = "moor posts 5;road 1 0;road 1 2;road 2 1;road 2 3;road 3 2;road 3 4;walker 1;";
 
+    private static final String ROW = "moor posts 6;road 1 0;road 1 2;road 2 1;road 2 3;road 3 2;road 3 4;road 4 3;road 4 5;";
+    private static final String SLOPE = "moor posts 6;road 1 0;road 1 2;road 1 2;road 2 1;road 2 3;road 2 3;road 3 2;road 3 4;road 3 4;"
+        + "road 4 3;road 4 5;road 4 5;";
+
     private LostEdgeTest() {
     }
 
@@ -88,7 +92,7 @@ final class LostEdgeTest {
         // A post that is none on another moor: it is asked for when the call is made.
         SignTurn x = printed("moor posts 6;road 0 5;", 5).get();
         due(call + " of the last post isn't refused", 1, asked.of(x, 1) >= -1 ? 1 : 0);
-        Check.tell(x, "moor posts 5;road 0 1;");
+        Check.retell(x, "moor posts 5;road 0 1;");
         due(call + " of a post that was", -3, asked.of(x, 1));
     }
 
@@ -128,6 +132,10 @@ final class LostEdgeTest {
         prints(text, 6, 2);
         prints(text, 6, 1, 0, 2);
         prints(text, 0, 3);
+        prints(text + "walker 3;", 12, 0);
+        prints(text + "walker 3;", 6, 0, 2);
+        prints(text + "walker 1;", 6, 0, 1);
+        prints(text + "walker 2;", 0, 2);
     }
 
     /** "as bits (0: there are none). -2: the TRAY, the POST; else as footprints()". */
@@ -158,6 +166,14 @@ final class LostEdgeTest {
         // Of three arms each shows another at 1 and 2: of these the first.
         Twin.asks("like ones: the first", 1, printed("moor posts 3;road 0 1;" + "road 1 0;".repeat(3) + "road 2 0;".repeat(3), 1), x -> x.look(1));
         Twin.asks("the least: the last one", 2, printed("moor posts 3;road 0 1;" + "road 1 0;".repeat(2) + "road 2 0;".repeat(3), 1), x -> x.look(1));
+        // By 1 2 the arm of 1 is known, whichever road it is; of 0 three are as likely, of 2 two.
+        for (int known = 0; known < 3; known++) {
+            StringBuilder told = new StringBuilder("moor posts 3;road 0 1;road 0 1;road 0 1;road 2 2;road 2 2;");
+            for (int road = 0; road < 3; road++) {
+                told.append("road 1 ").append(road == known ? 2 : 0).append(';');
+            }
+            Twin.asks("not the one whose road " + known + " is known", 0, printed(told.toString(), 1, 2), x -> x.look(1));
+        }
         // What its arm can't have shown is nothing to look for: by the footprints 1 showed road 0.
         Twin.asks("not one that is known", 2, printed("moor posts 3;road 0 1;road 1 0;road 1 2;road 1 2;road 2 0;road 2 1;", 1, 0), x -> x.look(1));
     }
@@ -189,10 +205,12 @@ final class LostEdgeTest {
         int[] start = {1, 0, 0, 0, 0, 0, 0};
         // 2 3 come round; 1 leads in by one, 0 by two.
         int[] third = {1, 1, 2, 2, 2, 2, 2};
+        int[] branches = {1, 2, 3, 0, 0, 0, 0};
         for (int n = 0; n <= 6; n++) {
             int k = n;
             asks("ahead of 2, " + n, tail[n], TAIL + "walker 2;", x -> x.ahead(k));
             asks("ahead of 3, " + n, third[n], TAIL + "walker 3;", x -> x.ahead(k));
+            asks("ahead in a tree, " + n, branches[n], "moor posts 6;road 1 0;road 2 0;road 3 1;road 4 1;road 5 2;", x -> x.ahead(k));
             asks("ahead of the first, " + n, start[n], TAIL, x -> x.ahead(k));
             asks("itself ahead of itself, " + n, 1, "moor posts 1;road 0 0;", x -> x.ahead(k));
             asks("a home ahead of itself, " + n, start[n], "moor posts 1;road 0 0;home 0;", x -> x.ahead(k));
@@ -224,6 +242,8 @@ final class LostEdgeTest {
         asks("one by itself", 1, "moor posts 1;road 0 0;", SignTurn::again);
         asks("a ring", 3, RING, SignTurn::again);
         asks("but its tail", 2, TAIL, SignTurn::again);
+        asks("a ring where the walker isn't", 2, "moor posts 4;road 2 3;road 3 2;", SignTurn::again);
+        asks("two rings", 4, "moor posts 6;road 0 0;road 1 2;road 2 1;road 3 1;road 5 5;", SignTurn::again);
         asks("waiting for ever", 1, "moor posts 2;road 0 1;sticks:1=1;", SignTurn::again);
         asks("waiting for ever, by all arms", 6, "moor posts 2;road 0 1;road 0 1;road 1 0;road 1 0;road 1 0;home 1;sticks:1=1;", SignTurn::again);
         StringBuilder big = new StringBuilder("moor posts 6;");
@@ -283,6 +303,17 @@ final class LostEdgeTest {
         // Three roads, of which two are alike: in lowest terms.
         fraction("moor posts 3;road 0 1;road 0 1;road 0 2;", 2, 3, 1, 2);
         fraction("moor posts 3;road 0 0;road 0 1;road 0 2;", 1, 2, 1, 2);
+        // Six in a row, as likely up as down: from k by k fifths.
+        for (int k = 1; k < 5; k++) {
+            fraction(ROW + "walker " + k + ";", k, 5, 5, 0);
+            fraction(ROW + "walker " + k + ";", 5 - k, 5, 0, 5);
+        }
+        // Twice as likely up as down: 8 + 4 + 2 + 1 to 16 ..
+        fraction(SLOPE + "walker 1;", 16, 31, 5, 0);
+        fraction(SLOPE + "walker 1;", 15, 31, 0, 5);
+        fraction(SLOPE + "walker 2;", 24, 31, 5, 0);
+        fraction(SLOPE + "walker 3;", 28, 31, 5, 0);
+        fraction(SLOPE + "walker 4;", 30, 31, 5, 0);
     }
 
     /** "(at a now: 1; at b now: 0)"; never, and surely; "at homes, at POSTS without roads it RESTS". */
@@ -320,6 +351,12 @@ final class LostEdgeTest {
         Twin.asks("without a text, below", 1, SignTurn::new, x -> x.mean(1));
         mean(RING + "home 1;", 1, 1);
         mean(LINE, 3, 1);
+        for (int k = 1; k < 5; k++) {
+            mean(ROW + "walker " + k + ";", k * (5 - k), 1);
+        }
+        // On a slope by a third a step: three times where it ends on the mean, less where it begins.
+        mean(SLOPE + "walker 1;", 3 * (5 * 16 - 31), 31);
+        mean(SLOPE + "walker 4;", 3 * (5 * 30 - 4 * 31), 31);
         mean("moor posts 2;road 0 0;road 0 1;road 0 1;", 3, 2);
         mean("moor posts 2;road 0 0;road 0 0;road 0 1;", 3, 1);
         // Each step is one back to the start by 2 of 3: 3 + 9 + .. 3 to the 5th.
@@ -369,6 +406,8 @@ final class LostEdgeTest {
         asks("all from the arms as they are", 0, "moor posts 3;road 0 1;road 0 2;arm 0 1;", x -> x.score(1, 2, 1));
         // The home between is no stop if it is a or b, and one that rests at another comes to neither.
         asks("to a home", 7, RING + "home 1;", x -> x.score(1, 2, 7));
+        asks("where the walker is", 2, TAIL + "road 3 1;walker 3;", x -> x.score(1, 0, 2));
+        asks("where the walker is, to the other", 3, "moor posts 4;road 0 1;road 3 2;road 3 1;walker 3;", x -> x.score(2, 1, 6));
         asks("by waiting", 4, "moor posts 3;road 0 1;road 0 1;sticks:arm=0;", x -> x.score(1, 2, 4));
     }
 
@@ -422,6 +461,7 @@ final class LostEdgeTest {
             refused("best to no post", -2, x -> x.best(p));
         }
         asks("it is there", -1, RING, x -> x.best(0));
+        asks("it is there, though a road leads back", -1, "moor posts 2;road 0 0;road 0 1;", x -> x.best(0));
         asks("it doesn't", -1, RING + "home 1;", x -> x.best(2));
         asks("it doesn't, at rest", -1, "moor posts 2;", x -> x.best(1));
         asks("the only one", 0, RING, x -> x.best(2));

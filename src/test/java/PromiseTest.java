@@ -147,7 +147,7 @@ final class PromiseTest {
     private static void nothingIsLeft(SignTurn x) {
         due("a text with a fault", -32, Check.tell(x, "moor posts 6;road 0 0;road 0 0;arm 0 1;home 5;walker 3;fog 4;"
             + "turns:0;sticks:1=1;bog"));
-        Check.tell(x, "moor posts 6;road 0 0;sticks:1=1;");
+        Check.retell(x, "moor posts 6;road 0 0;sticks:1=1;");
         due("a plain text", 3, Check.tell(x, "moor posts 6;road 0 1;road 0 2;"));
         int[] counts = {6, 2, 0, 0, 0, 0, 0, 0, 0, 3};
         for (int what = 0; what < counts.length; what++) {
@@ -173,7 +173,7 @@ final class PromiseTest {
         due("fault 2", SignTurn.NONE, x.fault(2));
         due("fault -1", SignTurn.NONE, x.fault(-1));
         due("fault MAX", SignTurn.NONE, x.fault(MAX));
-        Check.tell(x, RING);
+        Check.retell(x, RING);
         due("no fault", 0, x.fault(0));
         due("no place", SignTurn.NONE, x.fault(1));
     }
@@ -927,7 +927,7 @@ final class PromiseTest {
         x.numbers(0, 0, 8);
         Check.asks(x, "lists", 8, () -> x.lists(0));
         // The same way, but for a post 3 whose road leads back: 1 0 2 0 1 3 3 3.
-        Check.tell(x, FOUR.replace("home 3;", "road 3 3;"));
+        Check.retell(x, FOUR.replace("home 3;", "road 3 3;"));
         due("listed", 1023, x.fogs(0));
         x.numbers(1, 3, 40);
         due("lists 40", 40, x.lists(1));
@@ -964,7 +964,7 @@ final class PromiseTest {
         x.image(1);
         x.restore(1);
         String told = Check.told(x);
-        Check.tell(x, RING);
+        Check.retell(x, RING);
         Check.tray(x, 0, 0, 1, 2);
         x.step();
         Check.refused(x, "restore none", -5, () -> x.restore(0));
@@ -980,7 +980,7 @@ final class PromiseTest {
         due("one step", 1, x.count(6));
         due("the law waits", 1, x.by(1, 0));
         due("the law turns", 1, x.by(0, 1));
-        Check.tell(x, RING);
+        Check.retell(x, RING);
         x.restore(1);
         due("all is as it was", 1, told.equals(Check.told(x)) ? 1 : 0);
         due("trays aren't in it", 2, x.write(0, 1, 2));
@@ -988,7 +988,7 @@ final class PromiseTest {
         x.fog(3);
         due("the law in another fog", 0, x.by(0, 1));
         // The same fog, but another law: none of it may be left.
-        Check.tell(x, "moor posts 3;road 0 1;road 0 0;fog 4;");
+        Check.retell(x, "moor posts 3;road 0 1;road 0 0;fog 4;");
         due("the law of another moor", 1, x.by(0, 1));
         x.restore(1);
         due("the law in its fog", 1, x.by(0, 1));

@@ -31,6 +31,7 @@ final class TextEdgeTest {
         moorOfTooMany();
         moorEmptiesTheTape();
         moorBeginsAnew();
+        moorLeavesNothing();
         faultLeavesAll();
         faultIsOfTheLatest();
         Check.end();
@@ -68,6 +69,7 @@ final class TextEdgeTest {
         due("homes as bits", 1, x.count(2));
         due("no roads", 0, x.post(0, 1));
         due("no roads in all", 0, x.count(1));
+        due("no step even if it were no home", -5, x.by(0, 0));
         due("its arm", 0, x.post(0, 0));
         due("the walker there", 0, x.count(3));
         due("fog 0", 0, x.count(5));
@@ -89,6 +91,7 @@ final class TextEdgeTest {
     private static void textOf900() {
         String most = "moor posts 1;" + " ".repeat(881) + "fog 7";
         due("the last line is read", 7, lines(2, most + ";").count(5));
+        cutText();
         due("length", 900, most.length() + 1);
         faulty(1, most + "^?");
         faulty(2, most + " ^");
@@ -96,6 +99,21 @@ final class TextEdgeTest {
         faulty(2, most + "^a");
         lines(148, "moor posts 1;" + "fog 1;".repeat(147) + " ".repeat(5));
         lines(2, "moor posts 1;turns:" + "1+".repeat(439) + "10;");
+    }
+
+    /** "The first n bytes": what lies behind them on the tape doesn't go on with the last token. */
+    private static void cutText() {
+        SignTurn x = new SignTurn();
+        Check.feed(x, "moor posts 12345;");
+        due("cut within digits", -32, x.moor(12));
+        due("the end is there", 12, x.fault(1));
+        Check.feed(x, "moor posts 1;fogs 1;");
+        due("cut within a word", -32, x.moor(16));
+        due("the end is there", 16, x.fault(1));
+        Check.feed(x, "moor posts 1;  ???");
+        due("cut within blanks", 1, x.moor(14));
+        Check.feed(x, "moor posts 1;?");
+        due("cut ahead of what is no token", 1, x.moor(13));
     }
 
     /** "words (small letters), N (1 to 3 digits), the signs ; : + - * ( ) [ ] = < >", blanks "(10, 32)"; "1 no TOKEN begins so". */
@@ -155,6 +173,10 @@ final class TextEdgeTest {
         faulty(2, "moor ^post 1;");
         faulty(2, "moor ^postss 1;");
         faulty(2, TWO + "^roa 0 1;");
+        faulty(2, TWO + "^foga 1;");
+        faulty(2, TWO + "^fogz 1;");
+        faulty(2, TWO + "fog 1 ^a;");
+        faulty(2, TWO + "fog 1^z;");
         faulty(2, TWO + "^roadarm 0 1;");
         faulty(2, TWO + "road 01^;");
         faulty(2, TWO + "fog 1 ^2;");
@@ -512,9 +534,37 @@ final class TextEdgeTest {
         due("posts of the image", 4, x.count(0));
     }
 
+    /** What a text doesn't tell is as "Terms" tells it, not as an earlier text did. */
+    private static void moorLeavesNothing() {
+        SignTurn x = Check.of("moor posts 6;road 0 0;road 0 0;road 0 0;arm 0 2;road 1 1;road 1 1;arm 1 1;road 5 0;home 5;home 2;"
+            + "walker 3;fog 7;turns:0;sticks:fog=0;");
+        due("a text with a fault leaves nothing either", -32, Check.tell(x, "moor posts 6;road 1 1;arm 1 0;home 0;walker 5;"
+            + "fog 9;turns:2;sticks:1=1;x"));
+        due("few lines", 3, Check.tell(x, "moor posts 6;road 0 1;road 0 2;"));
+        int[] counts = {6, 2, 0, 0, 0, 0, 0, 0, 0, 3};
+        for (int what = 0; what < counts.length; what++) {
+            due("count " + what, counts[what], x.count(what));
+        }
+        due("no third road", -2, x.post(0, 12));
+        due("no law that keeps waiting", 1, x.by(0, 0));
+        due("no law of turns", 1, x.by(0, 1));
+        for (int p = 1; p < 6; p++) {
+            due("no roads of " + p, 0, x.post(p, 1));
+            due("nor a step from there", -5, x.by(p, 0));
+        }
+        due("one line", 1, Check.tell(x, "moor posts 6;"));
+        due("no roads", 0, x.count(1));
+        due("no step from the first", -5, x.by(0, 0));
+        due("no step", -12, x.step());
+        for (int i = 0; i < 5; i++) {
+            due("long laws one after another", 2, Check.tell(x, "moor posts 1;turns:" + "1+".repeat(430) + "1;"));
+        }
+    }
+
     /** "all stays with a FAULT", "-30 less the FAULT": but for the tape and fault(). */
     private static void faultLeavesAll() {
-        String[] texts = {"?", "", "moor posts 2;home 1;bog", "moor posts 7;", "moor posts 1;turns:(((((((", "moor posts 6;road 0 0;fog 9;walker 5;fog 10;"};
+        String[] texts = {"?", "", "moor posts 2;home 1;bog", "moor posts 7;", "moor posts 1;turns:(((((((",
+            "moor posts 6;road 0 0;fog 9;walker 5;fog 10;"};
         int[] kinds = {1, 2, 2, 3, 4, 3};
         for (int i = 0; i < texts.length; i++) {
             SignTurn x = Twin.rich();
@@ -545,7 +595,7 @@ final class TextEdgeTest {
         Check.tell(x, "moor posts 1;?");
         due("a later fault", 1, x.fault(0));
         due("its place", 13, x.fault(1));
-        Check.tell(x, "moor posts 1;");
+        Check.retell(x, "moor posts 1;");
         due("none", 0, x.fault(0));
         due("no place", -1, x.fault(1));
         for (int what : new int[] {-1, 2, 3, 10, Twin.MIN, Twin.MAX}) {

@@ -200,12 +200,12 @@ final class TrayEdgeTest {
         SignTurn y = Check.of("moor posts 3;road 0 1;home 1;");
         y.numbers(0, 0, 8);
         due("lists to rest", 8, y.lists(0));
-        Check.tell(y, "moor posts 3;road 0 1;road 1 1;");
+        Check.retell(y, "moor posts 3;road 0 1;road 1 1;");
         due("it rests at 1 in all places", 1023, y.fogs(0));
         SignTurn z = new SignTurn();
         Check.tray(z, 0, 3, 1, 2, 3, 4, 5);
         due("at rest from now on", 5, z.lists(0));
-        Check.tell(z, "moor posts 1;road 0 0;");
+        Check.retell(z, "moor posts 1;road 0 0;");
         due("it is at 0 in all places", 1023, z.fogs(0));
     }
 
@@ -295,7 +295,7 @@ final class TrayEdgeTest {
     private static void whatIsNoImage() {
         SignTurn x = Check.of(RING + "fog 2;turns:2;sticks:fog=3;");
         x.image(0);
-        Check.tell(x, "moor posts 2;home 1;walker 1;road 0 1;road 0 1;arm 0 1;");
+        Check.retell(x, "moor posts 2;home 1;walker 1;road 0 1;road 0 1;arm 0 1;");
         Check.tray(x, 0, 1, 5);
         Check.tell(x, "moor posts 9;");
         x.feed(1, 2, 3, 4, 5);
@@ -309,6 +309,13 @@ final class TrayEdgeTest {
         due("the law of turns", 1, x.step());
         x.fog(3);
         due("the law that keeps waiting", 1, x.step());
+        due("the tape is emptied", -32, x.moor(0));
+        // Another law in the same fog: none of it may be left.
+        Check.retell(x, "moor posts 3;road 0 1;road 0 2;road 1 1;road 1 1;fog 2;turns:0;");
+        due("restore again", 0, x.restore(0));
+        due("the law of turns again", 1, x.by(0, 0) + x.by(0, 1));
+        due("the roads again", 2, x.by(1, 0));
+        due("by one road", 0, x.by(1, 1));
     }
 
     // ---- 44

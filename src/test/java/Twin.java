@@ -48,9 +48,12 @@ final class Twin {
         refused(call, code, Twin::rich, asked);
     }
 
-    /** An answer that is no refusal, of a call that only asks. */
+    /** An answer that is no refusal, of a call that only asks: it answers so again. */
     static void asks(String call, long want, Supplier<SignTurn> made, ToLongFunction<SignTurn> asked) {
-        refused(call, want, made, asked);
+        SignTurn x = made.get();
+        Check.due(call, want, asked.applyAsLong(x));
+        Check.due(call + ", asked again", want, asked.applyAsLong(x));
+        same(call, made.get(), x);
     }
 
     static void same(String call, SignTurn want, SignTurn got) {
