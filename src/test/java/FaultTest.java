@@ -249,7 +249,7 @@ final class FaultTest {
     }
 
     /** Fault and place, or 0 and the lines. */
-    private static int[] plain(String text) {
+    static int[] plain(String text) {
         Deque<String> due = new ArrayDeque<>();
         push(due, "moor posts #count ; LINES");
         List<Integer> numbers = new ArrayList<>();

@@ -28,6 +28,31 @@ final class Oracle {
     int steps;
     int lines;
 
+    static Oracle withoutText() {
+        Oracle o = new Oracle();
+        o.posts = 1;
+        o.roads.add(new ArrayList<>());
+        o.homes.add(0);
+        o.arms = new int[1];
+        return o;
+    }
+
+    /** Another one with the same moor, to which other things can be done. */
+    Oracle copy() {
+        Oracle other = new Oracle();
+        other.posts = posts;
+        other.roads.addAll(roads);
+        other.homes.addAll(homes);
+        other.turns = turns;
+        other.sticks = sticks;
+        other.walker = walker;
+        other.arms = arms.clone();
+        other.fog = fog;
+        other.steps = steps;
+        other.lines = lines;
+        return other;
+    }
+
     static final class Place {
         final int walker;
         final int[] arms;
